@@ -14,6 +14,7 @@ public final class DeedsTest {
         drifting();
         undoing();
         undoKeepsThirty();
+        hoursAreFull();
         check.end();
     }
 
@@ -141,6 +142,10 @@ public final class DeedsTest {
         check.due("drift(4)", x.drift(4), 0);
         check.due("two hours: 0 and 21468 leave 0 by 6", x.told(5), 2);
         check.due("seed", x.seed(0), 1449466924);
+        SaltLines empty = Check.told("h2 0,1;d0 1 9 1;");
+        empty.drift(4);
+        check.due("no persons: one draw each time too", empty.seed(0), 1449466924);
+        check.due("two hours of rain", empty.door(0, 2), 7);
         SaltLines y = Check.told("h2 0,1;d0 1 5 1;p0 9;p1 9;");
         // draws 0 of 2, 21468 of 1, 9988 of 6: person 0 crosses, no hour
         check.due("drift(1)", y.drift(1), 1);
@@ -202,5 +207,18 @@ public final class DeedsTest {
         x.hour(5);
         check.due("undo(7)", x.undo(7), 28);
         check.due("left", x.told(13), 23);
+    }
+
+    /** Beyond the 512 calls that are promised; there is no shorter way to so many hours. */
+    private static void hoursAreFull() {
+        SaltLines x = Check.told("h2 0;");
+        for (int i = 0; i < 3000; i++) x.hour(30);
+        check.due("90000 hours", x.told(5), 90000);
+        check.due("hour at 90000", x.hour(1), 0);
+        check.due("hour above", x.hour(1), SaltLines.FULL);
+        check.due("drift above", x.drift(1), SaltLines.FULL);
+        check.due("hour(0) above", x.hour(0), SaltLines.OUTSIDE);
+        x.undo(1);
+        check.due("drift at 90000", x.drift(1), 0);
     }
 }

@@ -211,6 +211,7 @@ public final class HouseTest {
             check.due("door(0, " + what + ")", x.door(0, what), first[what]);
             check.due("door(1, " + what + ")", x.door(1, what), second[what]);
         }
+        check.due("stops persons 1 and 2", Check.told("h2 0;d0 1 5 0;p0 9;p0 4;p1 3;p1 5;").door(0, 5), 6);
         check.due("door(2, 0)", x.door(2, 0), SaltLines.UNKNOWN);
         check.due("door(-1, 9)", x.door(-1, 9), SaltLines.UNKNOWN);
         check.due("door(0, 6)", x.door(0, 6), SaltLines.OUTSIDE);

@@ -39,6 +39,9 @@ public final class SeenTest {
         x.see(0, true);
         check.due("no line stops none", x.ills(), 0);
         x.tear();
+        x.see(8, false);
+        check.due("none or one", x.ills(), 3);
+        check.due("parted by nine", x.lookAt(), 9);
         x.see(9, false);
         check.due("no ill", x.ills(), 1);
     }
@@ -136,6 +139,7 @@ public final class SeenTest {
         x.wish(0, -4);
         x.hour(2);
         x.keep(0);
+        x.buy(7);
         check.due("goBack(1)", x.goBack(1), 1);
         check.due("nothing can be undone", x.told(13), 0);
         int[] want = {2, 1, 1, 2, 0, 0, 9, 0, 1, 0, 4, 1, 1, 0};

@@ -87,6 +87,9 @@ public final class TriedTest {
         check.due("the lesser set", sets.keepOut(0, 3, 1), 1);
         SaltLines other = Check.told("h4 0;d1 2 6 0;d1 3 6 0;d2 3 6 0;d0 1 3 0;p0 8;");
         check.due("two lines are a lesser set than the fourth", other.keepOut(0, 3, 1), 3);
+        SaltLines far = Check.told("h4 0;d0 1 2 0;d1 2 4 0;d2 3 8 0;p0 8;");
+        check.due("the last of three", far.keepOut(0, 3, 0), 1);
+        check.due("the last of three", far.keepOut(0, 3, 1), 4);
         SaltLines most = Check.told("h2 0;d0 1 0 0;p0 8;");
         check.due("nine spoons, store is not looked at", most.keepOut(0, 1, 0), 9);
         check.due("nothing is laid", most.told(10), 0);
@@ -156,6 +159,8 @@ public final class TriedTest {
         check.due("eight left: of hour 96", slow.lasts(0), 96);
         SaltLines late = Check.told("h2 9,0,0,1,0,0,0,0,0,0,0,0,0;d0 1 9 1;");
         check.due("behind 99", late.lasts(0), 99);
+        check.due("holds it", late.holds(0), 0);
+        check.due("holds 99", late.holds(1), 99);
         SaltLines later = Check.told("h2 9,0,0,0,1,0,0,0,0,0,0,0,0;d0 1 9 1;");
         check.due("behind 100 is none", later.lasts(0), SaltLines.NONE);
         check.due("holds none then", later.holds(0), SaltLines.NONE);
@@ -188,6 +193,9 @@ public final class TriedTest {
         x.hour(1);
         check.due("all gone", x.holds(0), SaltLines.NONE);
         check.due("all gone", x.holds(1), SaltLines.NONE);
+        SaltLines door0 = Check.told("h3 0,1;d0 1 4 1;d1 2 5 1;");
+        check.due("door 0", door0.holds(0), 0);
+        check.due("behind 4", door0.holds(1), 4);
         check.due("no house", new SaltLines().holds(0), SaltLines.NONE);
     }
 
@@ -202,6 +210,11 @@ public final class TriedTest {
         x.step(0, 2);
         x.step(0, 2);
         check.due("door 2 again", x.mostCrossed(), 2);
+        x.step(0, 2);
+        for (int i = 0; i < 4; i++) x.step(0, 0);
+        check.due("door 0, as often as door 2", x.mostCrossed(), 0);
+        x.undo(4);
+        check.due("undone", x.mostCrossed(), 2);
     }
 
     private static void narrowDoors() {
@@ -218,6 +231,7 @@ public final class TriedTest {
         x.wish(4, -9);
         x.wish(4, -9);
         check.due("who is there comes", x.first(), 4);
+        check.due("person 0", Check.told("h2 0;p0 3;p0 3;p0 4;").first(), 0);
         check.due("none comes", Check.told("h2 0;d0 1 9 0;p1 0;").first(), SaltLines.NONE);
         check.due("no ill is least", Check.told("h2 0;d0 1 9 0;p1 0;p1 12;p0 13;").first(), 1);
         check.due("no house", new SaltLines().first(), SaltLines.NONE);
