@@ -3,7 +3,7 @@ import java.util.Random;
 
 /** Calls and texts drawn by number; a call is made by its name, so that SaltLines and the model are asked alike. */
 final class Calls {
-        private static final String[] NAMES = {"house", "fault", "told", "door", "person", "room", "rain", "hour", "step", "lay",
+    private static final String[] NAMES = {"house", "fault", "told", "door", "person", "room", "rain", "hour", "step", "lay",
         "sweep", "buy", "wish", "drift", "undo", "stops", "comers", "way", "keepOut", "soften", "parts", "worst", "lasts", "mend",
         "holds", "mostCrossed", "narrow", "first", "share", "dry", "see", "ills", "lookAt", "write", "judge", "tear", "seed",
         "keep", "goBack", "feed"};
