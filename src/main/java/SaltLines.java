@@ -24,6 +24,8 @@ public final class SaltLines {
     private static final int BOOK_MOST = 20;
     private static final int IMAGES = 2;
     private static final int BILLION = 1000000000;
+    private static final int SPOONS_MOST = DOORS_MOST * LINE_MOST;
+    private static final long SEEDS = 2147483648L;
 
     private final House home = new House();
     private final Tried tried = new Tried(home);
@@ -837,7 +839,7 @@ public final class SaltLines {
             if (!inSet(roomsOf(p), a)) return 0;
             if (from == a || ill == 0) return NONE;
             int doors = home.passable(ill);
-            int least = Integer.MAX_VALUE;
+            int least = SPOONS_MOST + 1;
             int leastLines = 0;
             for (int side = 0; side < only(home.rooms); side++) {
                 if (!inSet(side, from) || inSet(side, a)) continue;
@@ -1089,7 +1091,7 @@ public final class SaltLines {
         int seedNow;
 
         private int draw(int n) {
-            seedNow = (int) ((seedNow * 1103515245L + 12345L) & Integer.MAX_VALUE);
+            seedNow = (int) ((seedNow * 1103515245L + 12345L) % SEEDS);
             return n > 0 ? seedNow / 65536 % n : 0;
         }
 

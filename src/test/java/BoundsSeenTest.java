@@ -22,6 +22,8 @@ public final class BoundsSeenTest {
         goBackBounds();
         goBackBringsAllOfSection2();
         goBackLeavesNotes();
+        notesAreNoDeeds();
+        undoLeavesNotes();
         check.end();
     }
 
@@ -287,5 +289,38 @@ public final class BoundsSeenTest {
         check.due("THE BOOK stays", x.told(12), 2);
         check.due("THE TEXT stays", x.told(4), 21);
         check.due("the place of the FAULT stays", x.fault(), 1);
+    }
+
+    /** Deeds are HOURS, step(), lay(), sweep(), buy(), wish() and times BY DRAWS, and nothing else. */
+    private static void notesAreNoDeeds() {
+        SaltLines x = Houses.rich();
+        x.see(4, true);
+        check.due("see() is no deed", x.told(13), 6);
+        x.write(0, 1);
+        check.due("write() is no deed", x.told(13), 6);
+        x.tear();
+        check.due("tear() is no deed", x.told(13), 6);
+        x.seed(3);
+        check.due("seed() is no deed", x.told(13), 6);
+        x.feed('!');
+        check.due("feed() is no deed", x.told(13), 6);
+        x.house();
+        check.due("house() with a fault is no deed", x.told(13), 6);
+        x.undo(1);
+        check.due("undo() is no deed", x.told(13), 5);
+        check.due("the sweep is undone", x.door(1, 2), 6);
+    }
+
+    private static void undoLeavesNotes() {
+        SaltLines x = Houses.rich();
+        x.undo(6);
+        check.due("what was SEEN stays", x.told(11), 2);
+        check.due("what was SEEN stays: ILLS", x.ills(), Houses.rich().ills());
+        check.due("THE BOOK stays", x.told(12), 2);
+        check.due("THE TEXT stays", x.told(4), 21);
+        check.due("the place of the FAULT stays", x.fault(), 1);
+        check.due("THE SEED stays", x.seed(0), 7);
+        check.due("IMAGES stay", x.goBack(0), 1);
+        check.due("IMAGES stay", x.goBack(1), 1);
     }
 }

@@ -13,6 +13,7 @@ public final class BoundsTriedTest {
         stopsRefusals();
         stopsWhereverItIs();
         comersBounds();
+        comesAsLinesAre();
         shutIn();
         wayRefusals();
         wayIsThereOrNone();
@@ -142,6 +143,34 @@ public final class BoundsTriedTest {
         check.due("comers: no ninth", full.comers(8), SaltLines.UNKNOWN);
         check.due("comers: all six", Check.told("h2 0;" + "p1 0;".repeat(6)).comers(1), 63);
         check.due("comers: none", Check.told("h2 0;" + "p1 0;".repeat(6)).comers(0), 0);
+    }
+
+    /** Whatever changes a LINE or an ILL changes who COMES: ILL 5 by 5 spoons and not by 4. */
+    private static void comesAsLinesAre() {
+        SaltLines x = Check.told("h2 9,0,1;d0 1 4 1;p1 4;p0 9;");
+        check.due("4 spoons and 5: it COMES", x.comers(0), 3);
+        x.lay(0, 1);
+        check.due("LAID", x.comers(0), 2);
+        check.due("LAID: SHUT IN", x.told(9), 1);
+        check.due("LAID: its ROOMS", x.person(0, 3), 2);
+        check.due("LAID: whom the LINE STOPS", x.door(0, 5), 1);
+        x.hour(1);
+        check.due("an HOUR without RAIN", x.comers(0), 2);
+        x.hour(1);
+        check.due("an HOUR with RAIN", x.comers(0), 3);
+        x.undo(1);
+        check.due("undone", x.comers(0), 2);
+        for (int i = 0; i < 4; i++) x.step(1, 0);
+        check.due("CROSSED for the fourth time", x.comers(0), 3);
+        x.wish(0, -1);
+        check.due("MOVED", x.comers(0), 2);
+        x.sweep(0);
+        check.due("SWEPT", x.comers(0), 3);
+        x.lay(0, 4);
+        check.due("LAID again: ILL 6 and 4", x.comers(0), 2);
+        x.hour(23);
+        check.due("24 HOURS: ILL 5, and no LINE is left by RAIN", x.person(0, 2), 5);
+        check.due("24 HOURS", x.comers(0), 3);
     }
 
     private static void shutIn() {

@@ -23,6 +23,8 @@ public final class LanguageTest {
         onlyTheListedLibrary(code);
         methodsAreShort(code);
         faceIsTheDocuments(document);
+        nothingElseIsSeen();
+        headingsOfTheFace(source, document);
         classesAreSmall();
         check.end();
     }
@@ -37,8 +39,7 @@ public final class LanguageTest {
         Matcher imports = Pattern.compile("import ([\\w.]+);").matcher(code);
         while (imports.find()) check.isTrue("import " + imports.group(1), imports.group(1).equals("java.util.Arrays"));
         Matcher used = Pattern.compile("\\b(Arrays|Math|Integer|Long|System)\\.(\\w+)").matcher(code);
-        Set<String> listed = Set.of("Arrays.fill", "Math.min", "Math.max", "Math.floorMod", "Integer.bitCount", "Integer.signum",
-            "Integer.MAX_VALUE");
+        Set<String> listed = Set.of("Arrays.fill", "Math.min", "Math.max", "Math.floorMod", "Integer.bitCount", "Integer.signum");
         while (used.find()) check.isTrue("library " + used.group(), listed.contains(used.group()));
     }
 
@@ -76,6 +77,42 @@ public final class LanguageTest {
         for (Field field : SaltLines.class.getDeclaredFields()) {
             check.isTrue("field " + field, Modifier.isPrivate(field.getModifiers()) != constants.contains(field.getName()));
         }
+    }
+
+    /** Forty calls and five constants of int, all public; no class inside and nothing inherited shows from outside. */
+    private static void nothingElseIsSeen() {
+        for (Method method : SaltLines.class.getDeclaredMethods()) {
+            int flags = method.getModifiers();
+            check.isTrue(method + " is public or private", Modifier.isPublic(flags) || Modifier.isPrivate(flags));
+            if (Modifier.isPublic(flags)) check.isTrue(method + " is a call of an object", !Modifier.isStatic(flags) && method.getReturnType() == int.class);
+        }
+        check.due("public constructors", SaltLines.class.getConstructors().length, 1);
+        check.due("public constants", SaltLines.class.getFields().length, 5);
+        for (Field field : SaltLines.class.getFields()) {
+            int flags = field.getModifiers();
+            check.isTrue(field + " is a constant of int", Modifier.isStatic(flags) && Modifier.isFinal(flags) && field.getType() == int.class);
+        }
+        check.due("public classes inside", SaltLines.class.getClasses().length, 0);
+        check.isTrue("no class above it, no interface", SaltLines.class.getSuperclass() == Object.class && SaltLines.class.getInterfaces().length == 0);
+    }
+
+    /** The document's headings stand in the source, each behind the calls ahead of it and ahead of its own, in their order. */
+    private static void headingsOfTheFace(String source, String document) {
+        Matcher heading = Pattern.compile("Ahead of the calls (.*) the interface says: ---- ([^.]*)\\.").matcher(document);
+        int at = 0;
+        int headings = 0;
+        while (heading.find()) {
+            int next = source.indexOf("// ---- " + heading.group(2) + "\n", at);
+            check.isTrue("---- " + heading.group(2), next > at);
+            at = next;
+            for (String call : heading.group(1).replace("`", "").split(", ")) {
+                next = source.indexOf("public int " + call + "(", at);
+                check.isTrue("behind ---- " + heading.group(2) + ": " + call, next > at);
+                at = next;
+            }
+            headings++;
+        }
+        check.due("headings of the face", headings, 5);
     }
 
     private static void privateNames(Class<?> of, Set<String> names) {
